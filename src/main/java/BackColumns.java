@@ -817,6 +817,8 @@ public final class BackColumns {
 
     /** The CHEAPEST NOTICE for a READER. */
     private static final class Search {
+        private static final int BEYOND_ANY_COST = 1000;
+
         private final Reading[] rows = new Reading[LONGEST_SOUGHT + 1];
         private int aim = 0;
         int bestCode = 0;
@@ -832,7 +834,7 @@ public final class BackColumns {
         void seek(Paper paper, int i) {
             aim = i;
             bestCode = 0;
-            bestCost = Integer.MAX_VALUE;
+            bestCost = BEYOND_ANY_COST;
             rows[0].clear();
             for (int length = 1; length <= LONGEST_SOUGHT; length++) {
                 lengthen(this, paper, 0, length);
