@@ -95,6 +95,16 @@ final class Edge {
         }
     }
 
+    /** What is no run of calls. */
+    static void holds(int promise, String sentence, boolean so) {
+        closeOpen();
+        promises.add(promise);
+        edges++;
+        if (!so) {
+            fault("promise " + promise + ": not so: " + sentence);
+        }
+    }
+
     private static void fault(String what) {
         wrong++;
         System.out.println(what);
